@@ -38,7 +38,8 @@ public final class Sealhouse {
     private final Heap heap = new Heap();
     private final Reach reach = new Reach();
     private final int[] trapCounts = new int[CAUSES.length()];
-    private final boolean[] doomedBases = new boolean[CELLS];
+    /** The cells whose rights are to become numbers: a row made once and used again. */
+    private final CellSets doomed = new CellSets(1);
 
     public Sealhouse() {
         calls.begin(0, Word.number(0), Word.number(0));
@@ -231,9 +232,8 @@ public final class Sealhouse {
     }
 
     public int sweep() {
-        for (int i = 0; i < doomedBases.length; i++) {
-            doomedBases[i] = heap.rests(i);
-        }
+        doomed.clear(0);
+        heap.addResting(doomed);
         int dropped = dropDoomedRights();
         heap.releaseResting();
         finish();
@@ -278,16 +278,13 @@ public final class Sealhouse {
         if (!Word.holdsRight(right)) {
             throw new NoSuchElementException("the register holds a number");
         }
-        switch (what) {
-            case 'b':
-                return Word.base(right);
-            case 't':
-                return Word.top(right);
-            case 'p':
-                return Word.permissions(right);
-            default:
-                return Word.sealNumber(right);
+        if (what == 'b') {
+            return Word.base(right);
         }
+        if (what == 't') {
+            return Word.top(right);
+        }
+        return what == 'p' ? Word.permissions(right) : Word.sealNumber(right);
     }
 
     public int cell(int cell) throws IndexOutOfBoundsException {
@@ -355,11 +352,7 @@ public final class Sealhouse {
     public double meanReach() {
         int sum = 0;
         for (int c = 0; c < COMPARTMENTS; c++) {
-            for (int i = 0; i < CELLS; i++) {
-                if (reach.isNow(c, i)) {
-                    sum++;
-                }
-            }
+            sum += reach.sizeNow(c);
         }
         return (double) sum / (double) COMPARTMENTS;
     }
@@ -446,7 +439,8 @@ public final class Sealhouse {
 
     private char keep(int to, long word) {
         calls.hold(to, word);
-        return finish();
+        reach.note(memory, calls, heap);
+        return FINE;
     }
 
     /** Ends each call that may change what is reached, for what was ever reached is kept. */
@@ -465,7 +459,7 @@ public final class Sealhouse {
         } else {
             endCall(Word.number(-1));
         }
-        finish();
+        reach.note(memory, calls, heap);
         return cause;
     }
 
@@ -473,14 +467,13 @@ public final class Sealhouse {
         int part = Calls.partStart(calls.presentDepth());
         calls.goBack(handedBack);
         memory.clear(part, part + PART_LENGTH);
-        for (int i = 0; i < doomedBases.length; i++) {
-            doomedBases[i] = i >= part && i < part + PART_LENGTH;
-        }
+        doomed.clear(0);
+        doomed.addRange(0, part, part + PART_LENGTH);
         dropDoomedRights();
     }
 
     private int dropDoomedRights() {
-        return memory.dropRights(doomedBases, CELLS) + calls.dropRights(doomedBases);
+        return memory.dropRights(doomed, CELLS) + calls.dropRights(doomed);
     }
 
     private boolean reachIsSound() {
@@ -589,7 +582,7 @@ public final class Sealhouse {
         }
 
         static boolean permits(long word, int wanted) {
-            return (permissions(word) & wanted) == wanted;
+            return (word >> PERMISSIONS_SHIFT & wanted) == wanted;
         }
 
         static long withAddress(long word, int address) {
@@ -631,11 +624,10 @@ public final class Sealhouse {
         }
 
         /** Makes the rights with such bases among the first words numbers, and returns how many there were. */
-        int dropRights(boolean[] doomedBases, int count) {
+        int dropRights(CellSets doomed, int count) {
             int dropped = 0;
             for (int i = 0; i < count && i < words.length; i++) {
-                int base = Word.base(words[i]);
-                if (Word.holdsRight(words[i]) && base < doomedBases.length && doomedBases[base]) {
+                if (Word.holdsRight(words[i]) && doomed.has(0, Word.base(words[i]))) {
                     words[i] = Word.number(Word.asNumber(words[i]));
                     dropped++;
                 }
@@ -729,8 +721,8 @@ public final class Sealhouse {
             }
         }
 
-        int dropRights(boolean[] doomedBases) {
-            return registers.dropRights(doomedBases, (present + 1) * REGISTERS);
+        int dropRights(CellSets doomed) {
+            return registers.dropRights(doomed, (present + 1) * REGISTERS);
         }
 
         boolean rightsAreSound() {
@@ -844,6 +836,14 @@ public final class Sealhouse {
             }
         }
 
+        void addResting(CellSets doomed) {
+            for (int i = HEAP_START; i < HEAP_START + HEAP_LENGTH; i++) {
+                if (rests(i)) {
+                    doomed.add(0, i);
+                }
+            }
+        }
+
         void releaseResting() {
             for (int i = 0; i < states.length; i++) {
                 if (states[i] == RESTS) {
@@ -875,59 +875,117 @@ public final class Sealhouse {
         }
     }
 
+    /** Sets of cells, each of two longs with a bit for each cell, so that many cells are added at once. */
+    private static final class CellSets {
+        private static final int BITS = 64;
+        private static final int BIT_SHIFT = 6;
+
+        private final long[] halves;
+
+        /** Counts are constants of this file, all above 0. */
+        CellSets(int count) {
+            halves = new long[count > 0 ? 2 * count : 0];
+        }
+
+        void clear(int set) {
+            putHalf(2 * set, 0);
+            putHalf(2 * set + 1, 0);
+        }
+
+        void add(int set, int cell) {
+            int index = 2 * set + (cell >> BIT_SHIFT);
+            if (index >= 0 && index < halves.length) {
+                halves[index] |= 1L << cell;
+            }
+        }
+
+        void addRange(int set, int base, int top) {
+            putHalf(2 * set, half(2 * set) | bits(base, top));
+            putHalf(2 * set + 1, half(2 * set + 1) | bits(base - BITS, top - BITS));
+        }
+
+        /** Adds what the same set has in another row of sets. */
+        void addAll(int set, CellSets others) {
+            putHalf(2 * set, half(2 * set) | others.half(2 * set));
+            putHalf(2 * set + 1, half(2 * set + 1) | others.half(2 * set + 1));
+        }
+
+        boolean has(int set, int cell) {
+            int index = 2 * set + (cell >> BIT_SHIFT);
+            return index >= 0 && index < halves.length && (halves[index] >>> cell & 1) != 0;
+        }
+
+        boolean hasRange(int set, int base, int top) {
+            return (bits(base, top) & ~half(2 * set)) == 0
+                    && (bits(base - BITS, top - BITS) & ~half(2 * set + 1)) == 0;
+        }
+
+        int size(int set) {
+            return Long.bitCount(half(2 * set)) + Long.bitCount(half(2 * set + 1));
+        }
+
+        private long half(int index) {
+            return index >= 0 && index < halves.length ? halves[index] : 0;
+        }
+
+        private void putHalf(int index, long bits) {
+            if (index >= 0 && index < halves.length) {
+                halves[index] = bits;
+            }
+        }
+
+        /** The bits from one number on and ahead of another one, as far as they lie in one long. */
+        private static long bits(int from, int to) {
+            int first = from < 0 ? 0 : from;
+            int last = to > BITS ? BITS : to;
+            return first < last ? -1L >>> BITS - (last - first) << first : 0;
+        }
+    }
+
     /** Which cells each compartment reaches, and has ever reached. */
     private static final class Reach {
-        private final boolean[] now = new boolean[COMPARTMENTS * CELLS];
-        private final boolean[] ever = new boolean[COMPARTMENTS * CELLS];
-        /** The cells of the compartment looked at in which rights are found, each queued once. */
-        private final boolean[] searched = new boolean[CELLS];
+        private final CellSets now = new CellSets(COMPARTMENTS);
+        private final CellSets ever = new CellSets(COMPARTMENTS);
+        /** The cells in which the compartment that is looked at finds rights, each queued once. */
+        private final CellSets searched = new CellSets(1);
         private final int[] queue = new int[CELLS];
         private int queued = 0;
 
         boolean isNow(int compartment, int cell) {
-            int index = compartment * CELLS + cell;
-            return index >= 0 && index < now.length && now[index];
+            return now.has(compartment, cell);
         }
 
         boolean wasEver(int compartment, int cell) {
-            int index = compartment * CELLS + cell;
-            return index >= 0 && index < ever.length && ever[index];
+            return ever.has(compartment, cell);
+        }
+
+        int sizeNow(int compartment) {
+            return now.size(compartment);
         }
 
         void note(Row memory, Calls calls, Heap heap) {
             for (int c = 0; c < COMPARTMENTS; c++) {
-                forget(c);
+                now.clear(c);
+                searched.clear(0);
+                queued = 0;
                 startFrom(c, calls);
                 for (int i = 0; i < queued && i < queue.length; i++) {
                     long word = memory.read(queue[i]);
-                    if (!heap.rests(Word.base(word))) {
+                    if (Word.holdsRight(word) && !heap.rests(Word.base(word))) {
                         follow(c, word);
                     }
                 }
-                remember(c);
-            }
-        }
-
-        private void forget(int compartment) {
-            queued = 0;
-            for (int i = 0; i < CELLS && i < searched.length; i++) {
-                searched[i] = false;
-                int index = compartment * CELLS + i;
-                if (index >= 0 && index < now.length) {
-                    now[index] = false;
-                }
+                ever.addAll(c, now);
             }
         }
 
         private void startFrom(int compartment, Calls calls) {
             int globals = compartment * GLOBALS_LENGTH;
-            mark(compartment, globals, globals + GLOBALS_LENGTH);
-            search(globals, globals + GLOBALS_LENGTH);
-            for (int d = 0; d <= calls.presentDepth(); d++) {
+            own(compartment, globals, globals + GLOBALS_LENGTH);
+            for (int d = 0; d <= calls.presentDepth() && d < DEPTHS; d++) {
                 if (calls.compartmentAt(d) == compartment) {
                     int part = Calls.partStart(d);
-                    mark(compartment, part, part + PART_LENGTH);
-                    search(part, part + PART_LENGTH);
+                    own(compartment, part, part + PART_LENGTH);
                     for (int r = 0; r < REGISTERS; r++) {
                         follow(compartment, calls.registerAt(d, r));
                     }
@@ -935,42 +993,29 @@ public final class Sealhouse {
             }
         }
 
+        private void own(int compartment, int base, int top) {
+            now.addRange(compartment, base, top);
+            search(base, top);
+        }
+
         private void follow(int compartment, long word) {
             if (!Word.holdsRight(word) || Word.sealNumber(word) != 0) {
                 return;
             }
             if (Word.permits(word, READ) || Word.permits(word, WRITE)) {
-                mark(compartment, Word.base(word), Word.top(word));
+                now.addRange(compartment, Word.base(word), Word.top(word));
             }
-            if (Word.permits(word, READ | LOAD_RIGHTS)) {
+            if (Word.permits(word, READ | LOAD_RIGHTS) && !searched.hasRange(0, Word.base(word), Word.top(word))) {
                 search(Word.base(word), Word.top(word));
-            }
-        }
-
-        private void mark(int compartment, int base, int top) {
-            for (int i = base; i < top; i++) {
-                int index = compartment * CELLS + i;
-                if (index >= 0 && index < now.length) {
-                    now[index] = true;
-                }
             }
         }
 
         private void search(int base, int top) {
             for (int i = base; i < top; i++) {
-                if (i >= 0 && i < searched.length && !searched[i] && queued >= 0 && queued < queue.length) {
-                    searched[i] = true;
+                if (!searched.has(0, i) && queued >= 0 && queued < queue.length) {
+                    searched.add(0, i);
                     queue[queued] = i;
                     queued++;
-                }
-            }
-        }
-
-        private void remember(int compartment) {
-            for (int i = 0; i < CELLS; i++) {
-                int index = compartment * CELLS + i;
-                if (index >= 0 && index < now.length && index < ever.length && now[index]) {
-                    ever[index] = true;
                 }
             }
         }
