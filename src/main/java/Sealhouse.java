@@ -43,7 +43,6 @@ public final class Sealhouse {
 
     public Sealhouse() {
         calls.begin(0, Word.number(0), Word.number(0));
-        reach.note(memory, calls, heap);
     }
 
     // ---- Operations ----
@@ -811,7 +810,7 @@ public final class Sealhouse {
             if (first < 0 || first + size > states.length || compartment < 0 || compartment >= counts.length) {
                 return;
             }
-            for (int i = first; i < first + size && i < states.length; i++) {
+            for (int i = first; i < first + size && i < states.length && i < owners.length; i++) {
                 states[i] = GOT;
                 owners[i] = compartment;
             }
@@ -824,12 +823,13 @@ public final class Sealhouse {
         /** Whether these are just the bounds of cells that were got at once and not freed yet. */
         boolean isBlock(int base, int top) {
             int first = base - HEAP_START;
-            return first >= 0 && first < states.length && states[first] == GOT && blockTops[first] == top;
+            return first >= 0 && first < states.length && first < blockTops.length
+                    && states[first] == GOT && blockTops[first] == top;
         }
 
         void layToRest(int base, int top) {
             for (int i = base - HEAP_START; i < top - HEAP_START; i++) {
-                if (i >= 0 && i < states.length) {
+                if (i >= 0 && i < states.length && i < blockTops.length) {
                     states[i] = RESTS;
                     blockTops[i] = 0;
                 }
@@ -845,7 +845,7 @@ public final class Sealhouse {
         }
 
         void releaseResting() {
-            for (int i = 0; i < states.length; i++) {
+            for (int i = 0; i < states.length && i < owners.length; i++) {
                 if (states[i] == RESTS) {
                     states[i] = FREE;
                     giveBack(owners[i]);
@@ -862,7 +862,7 @@ public final class Sealhouse {
         boolean countsAreSound() {
             for (int c = 0; c < counts.length; c++) {
                 int owned = 0;
-                for (int i = 0; i < states.length; i++) {
+                for (int i = 0; i < states.length && i < owners.length; i++) {
                     if (states[i] != FREE && owners[i] == c) {
                         owned++;
                     }
@@ -950,6 +950,15 @@ public final class Sealhouse {
         private final CellSets searched = new CellSets(1);
         private final int[] queue = new int[CELLS];
         private int queued = 0;
+
+        /** In a new machine each compartment has its globals, and the compartment 0 the first part of the stack. */
+        Reach() {
+            own(0, Calls.partStart(0), Calls.partStart(0) + PART_LENGTH);
+            for (int c = 0; c < COMPARTMENTS; c++) {
+                own(c, c * GLOBALS_LENGTH, (c + 1) * GLOBALS_LENGTH);
+                ever.addAll(c, now);
+            }
+        }
 
         boolean isNow(int compartment, int cell) {
             return now.has(compartment, cell);

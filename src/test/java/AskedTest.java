@@ -156,12 +156,15 @@ public final class AskedTest {
         CHECK.yes("what is found in the part", x.reaches(0, 64));
     }
 
-    /** Many rights to the same cells, each of which holds one of them, and one more in the last cell. */
+    /** Many rights to the same cells, each of which holds one of them, and a way further on from the last cell. */
     private static void reachOfManyCells() {
         Sealhouse x = new Sealhouse();
         x.setQuota(0, 32);
         x.get(0, 20);
         x.get(1, 1);
+        x.get(3, 1);
+        x.store(1, 3);
+        x.put(3, 0);
         for (int i = 0; i < 20; i++) {
             x.step(2, 0, i);
             x.store(2, i == 19 ? 1 : 0);
@@ -169,7 +172,8 @@ public final class AskedTest {
         x.put(1, 0);
         x.put(2, 0);
         CHECK.yes("reaches", x.reaches(0, 84));
-        CHECK.same("8 + 4 + 21, 8, 8 and 8", x.meanReach(), 57 / 4.0);
+        CHECK.yes("and what is found there", x.reaches(0, 85));
+        CHECK.same("8 + 4 + 22, 8, 8 and 8", x.meanReach(), 58 / 4.0);
     }
 
     private static void reachOfSealsAndPermissions() {
