@@ -45,6 +45,10 @@ final class Check {
         }
     }
 
+    int madeOnes() {
+        return made;
+    }
+
     int wrongOnes() {
         return wrong;
     }

@@ -537,9 +537,4 @@ final class Model {
     boolean isSound() {
         return true;
     }
-
-    /** All that a compartment reaches, asked at once for ModelTest. */
-    Set<Integer> allReached(int compartment) {
-        return reachOf(compartment);
-    }
 }

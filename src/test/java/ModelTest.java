@@ -1,23 +1,33 @@
 import java.lang.reflect.InvocationTargetException;
 import java.lang.reflect.Method;
+import java.lang.reflect.Modifier;
 import java.util.ArrayList;
 import java.util.Arrays;
 import java.util.Comparator;
 import java.util.HashMap;
 import java.util.List;
 import java.util.Map;
-import java.util.Set;
+import java.util.TreeMap;
 
 /** Long runs of calls, each made on the class and on the model, with the answers compared. */
 public final class ModelTest {
-    private static final int RUNS = 400;
+    private static final int RUNS = 1000;
+    /** An object may be used for so many calls. */
     private static final int CALLS = 512;
+    private static final int LEAST_OPERATIONS = 32;
+    private static final int MOST_OPERATIONS = 384;
     private static final int MANY_WRONG = 20;
     /** How often each operation is drawn; the other methods are drawn now and then. */
     private static final String[] OFTEN = {
         "put", "move", "move", "narrow", "narrow", "restrict", "step", "step", "step", "load", "load", "load",
         "store", "store", "store", "store", "store", "store", "seal", "unseal", "call", "call", "callSealed",
         "callSealed", "leave", "get", "get", "get", "free", "free", "sweep", "setQuota",
+    };
+
+    /** How often each thing is asked behind the operations of a run. */
+    private static final String[] ASKED = {
+        "value", "isRight", "ask", "ask", "cell", "cell", "hasRight", "stateOf", "counted", "traps", "runs", "depth",
+        "reaches", "reaches", "reaches", "hasReached", "hasReached", "checksum", "rightShare", "meanReach", "isSound",
     };
 
     private final Check check = new Check("ModelTest");
@@ -36,7 +46,7 @@ public final class ModelTest {
     private static Map<String, Method> methodsOf(Class<?> c) {
         Map<String, Method> methods = new HashMap<>();
         for (Method m : c.getDeclaredMethods()) {
-            if (c == Model.class || java.lang.reflect.Modifier.isPublic(m.getModifiers())) {
+            if (c == Model.class || Modifier.isPublic(m.getModifiers())) {
                 m.setAccessible(true);
                 methods.put(m.getName(), m);
             }
@@ -54,17 +64,19 @@ public final class ModelTest {
             x = new Sealhouse();
             model = new Model();
             int sloppy = run % 4 == 0 ? 10 : run % 4 == 1 ? 60 : 300;
+            int operations = LEAST_OPERATIONS + draw(MOST_OPERATIONS - LEAST_OPERATIONS);
             for (int i = 0; i < CALLS && check.wrongOnes() < MANY_WRONG; i++) {
-                one(run, i, sloppy);
-                if (i % 16 == 15) {
-                    everything(run, i);
+                if (i < operations) {
+                    one(run, i, sloppy);
+                } else {
+                    question(run, i);
                 }
             }
         }
         for (String due : new String[] {"t", "s", "p", "b", "l", "q", "m", "d", "f"}) {
             check.yes("a run with the trap " + due, seen.getOrDefault(due, 0) > 20);
         }
-        System.out.println("ModelTest saw " + new java.util.TreeMap<>(seen));
+        System.out.println("ModelTest saw " + new TreeMap<>(seen));
         check.end();
     }
 
@@ -178,39 +190,19 @@ public final class ModelTest {
         return draw(8);
     }
 
-    private void everything(int run, int i) {
-        String at = "run " + run + ", behind call " + i + ", ";
-        for (int r = 0; r < 8; r++) {
-            int register = r;
-            check.same(at + "value " + r, x.value(r), model.value(r));
-            for (char what : "btps".toCharArray()) {
-                check.same(at + "ask " + r + what, Check.answer(() -> x.ask(register, what)),
-                        Check.answer(() -> model.ask(register, what)));
+    /** Asks one of the things that can be asked, of the class and of the model. */
+    private void question(int run, int i) {
+        String name = ASKED[draw(ASKED.length)];
+        Method m = real.get(name);
+        Object[] args = new Object[m.getParameterCount()];
+        for (int a = 0; a < args.length; a++) {
+            if (m.getParameterTypes()[a] == char.class) {
+                args[a] = name.equals("ask") ? "btps".charAt(draw(4)) : "tspblqmdf".charAt(draw(9));
+            } else {
+                args[a] = number(name, a, args);
             }
         }
-        for (int c = 0; c < 96; c++) {
-            check.same(at + "cell " + c, x.cell(c), model.cell(c));
-            check.same(at + "hasRight " + c, x.hasRight(c), model.hasRight(c));
-            check.same(at + "stateOf " + c, x.stateOf(c), model.stateOf(c));
-        }
-        for (int c = 0; c < 4; c++) {
-            check.same(at + "counted " + c, x.counted(c), model.counted(c));
-            Set<Integer> reached = model.allReached(c);
-            for (int k = 0; k < 96; k++) {
-                check.same(at + "reaches " + c + " " + k, x.reaches(c, k), reached.contains(k));
-                check.same(at + "hasReached " + c + " " + k, x.hasReached(c, k), model.hasReached(c, k));
-            }
-        }
-        for (char cause : "tspblqmdf".toCharArray()) {
-            check.same(at + "traps " + cause, x.traps(cause), model.traps(cause));
-        }
-        check.same(at + "depth", x.depth(), model.depth());
-        for (int d = 0; d <= model.depth(); d++) {
-            check.same(at + "runs " + d, x.runs(d), model.runs(d));
-        }
-        check.same(at + "checksum", x.checksum(), model.checksum());
-        check.same(at + "rightShare", x.rightShare(), model.rightShare());
-        check.same(at + "meanReach", x.meanReach(), model.meanReach());
-        check.same(at + "isSound", x.isSound(), model.isSound());
+        check.same("run " + run + ", question " + i + ", " + name + Arrays.toString(args), answer(m, x, args),
+                answer(told.get(name), model, args));
     }
 }

@@ -1,3 +1,4 @@
+import java.io.IOException;
 import java.lang.reflect.Field;
 
 /**
@@ -5,9 +6,11 @@ import java.lang.reflect.Field;
  * the machine. It knows the fields of the class, and is to be changed with them.
  */
 public final class SoundTest {
-    private static final Check CHECK = new Check("SoundTest");
-
     private SoundTest() {
+    }
+
+    public static void main(String[] args) throws IOException {
+        Sentences.run(SoundTest.class);
     }
 
     private static Object field(Object of, String name) throws ReflectiveOperationException {
@@ -28,60 +31,78 @@ public final class SoundTest {
         return base | 1L << 32 | (long) base << 33 | (long) top << 40 | 127L << 47;
     }
 
-    public static void main(String[] args) throws ReflectiveOperationException {
-        bounds();
-        reaches();
-        counts();
-        CHECK.end();
-    }
-
-    private static void bounds() throws ReflectiveOperationException {
+    @Says(in = "Promise 33", words = "each right in a register or a cell lies within the memory, with bounds that need no "
+            + "rounding;")
+    static void bounds(Check due) throws ReflectiveOperationException {
         int[][] cases = {
             {8, 16, 1}, {8, 17, 0}, {8, 18, 1}, {9, 18, 0}, {9, 19, 0}, {8, 8, 0}, {9, 8, 0}, {0, 96, 1}, {16, 96, 1},
-            {15, 95, 0}, {95, 96, 1}, {96, 97, 0}, {88, 98, 0}, {88, 96, 1},
+            {15, 95, 0}, {95, 96, 1}, {96, 97, 0}, {88, 98, 0}, {88, 96, 1}, {0, 64, 1}, {0, 68, 0}, {0, 72, 0},
+            {0, 80, 1}, {8, 72, 1}, {8, 88, 0}, {4, 36, 1}, {4, 40, 0}, {2, 18, 1}, {2, 20, 0},
         };
         for (int[] c : cases) {
             Sealhouse x = new Sealhouse();
             cells(x)[95] = right(c[0], c[1]);
-            CHECK.same("a cell with " + c[0] + ".." + c[1], x.isSound(), c[2] == 1);
+            due.same("a cell with " + c[0] + ".." + c[1], x.isSound(), c[2] == 1);
             x = new Sealhouse();
             x.call(1);
             registers(x)[5] = right(c[0], c[1]);
-            CHECK.same("a waiting register with " + c[0] + ".." + c[1], x.isSound(), c[2] == 1);
+            due.same("a waiting register with " + c[0] + ".." + c[1], x.isSound(), c[2] == 1);
             x = new Sealhouse();
             x.call(1);
             registers(x)[15] = right(c[0], c[1]);
-            CHECK.same("a register with " + c[0] + ".." + c[1], x.isSound(), c[2] == 1);
+            due.same("a register with " + c[0] + ".." + c[1], x.isSound(), c[2] == 1);
             x = new Sealhouse();
             registers(x)[8] = right(c[0], c[1]);
-            CHECK.yes("a register of no call with " + c[0] + ".." + c[1], x.isSound());
+            due.yes("a register of no call with " + c[0] + ".." + c[1], x.isSound());
         }
     }
 
-    private static void reaches() throws ReflectiveOperationException {
-        int[][] cases = {{32, 36, 1}, {36, 40, 1}, {40, 44, 0}, {60, 64, 0}, {64, 65, 1}, {64, 66, 0}, {95, 96, 0}};
-        for (int[] c : cases) {
-            Sealhouse x = new Sealhouse();
-            x.get(1, 1);
-            x.call(1);
-            registers(x)[12] = right(c[0], c[1]);
-            x.put(0, 0);
-            CHECK.same("a reach of " + c[0] + ".." + c[1], x.isSound(), c[2] == 1);
-        }
-    }
-
-    private static void counts() throws ReflectiveOperationException {
+    /** Whether it is sound that the call at the depth 1, behind a get of the cell 64, has a right to these cells. */
+    private static void reaches(Check due, int base, int top, boolean sound) throws ReflectiveOperationException {
         for (int c = 0; c < 4; c++) {
             Sealhouse x = new Sealhouse();
+            x.get(1, 1);
             x.call(c);
-            x.get(0, 3);
-            x.free(0);
-            CHECK.yes("isSound", x.isSound());
-            int[] counts = (int[]) field(field(x, "heap"), "counts");
-            counts[c]--;
-            CHECK.no("one too few", x.isSound());
-            counts[c] += 2;
-            CHECK.no("one too many", x.isSound());
+            registers(x)[12] = right(base, top);
+            x.put(0, 0);
+            due.same("a reach of " + base + ".." + top + " by " + c, x.isSound(), sound);
+        }
+    }
+
+    @Says(in = "Promise 33", words = "no compartment reaches a free cell")
+    static void freeCells(Check due) throws ReflectiveOperationException {
+        reaches(due, 64, 65, true);
+        reaches(due, 64, 66, false);
+        reaches(due, 65, 66, false);
+        reaches(due, 95, 96, false);
+    }
+
+    @Says(in = "Promise 33", words = "or a part of the stack behind the depth;")
+    static void parts(Check due) throws ReflectiveOperationException {
+        reaches(due, 32, 36, true);
+        reaches(due, 36, 40, true);
+        reaches(due, 39, 40, true);
+        reaches(due, 40, 41, false);
+        reaches(due, 63, 64, false);
+    }
+
+    @Says(in = "Promise 33", words = "and what was got and what rests counts for quotas.")
+    static void counts(Check due) throws ReflectiveOperationException {
+        for (int c = 0; c < 4; c++) {
+            for (int rests = 0; rests < 2; rests++) {
+                Sealhouse x = new Sealhouse();
+                x.call(c);
+                x.get(0, 3);
+                if (rests == 1) {
+                    x.free(0);
+                }
+                due.yes("isSound", x.isSound());
+                int[] counts = (int[]) field(field(x, "heap"), "counts");
+                counts[c]--;
+                due.no("one too few", x.isSound());
+                counts[c] += 2;
+                due.no("one too many", x.isSound());
+            }
         }
     }
 }
