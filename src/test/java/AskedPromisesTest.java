@@ -67,7 +67,8 @@ public final class AskedPromisesTest {
         due.yes("a right", new Sealhouse().isRight(7));
         due.no("a number", new Sealhouse().isRight(0));
         due.no("a number like its address", Scenes.with(x -> x.put(6, 32)).isRight(6));
-        due.yes("a sealed right without permissions", Scenes.with(x -> x.restrict(0, 7, 0), x -> x.seal(0, 0)).isRight(0));
+        due.yes("a sealed right without permissions", Scenes.with(x -> x.restrict(0, 7, 0), x -> x.seal(0,
+                0)).isRight(0));
         due.yes("one whose cells rest", Scenes.with(x -> x.get(0, 1), x -> x.free(0)).isRight(0));
         due.no("one whose cells were swept", Scenes.with(x -> x.get(0, 1), x -> x.free(0), x -> x.sweep()).isRight(0));
     }
@@ -171,7 +172,8 @@ public final class AskedPromisesTest {
 
     @Says(in = "Promise 22", words = "Throws `NoSuchElementException` if it holds a number")
     static void askThrowsNone(Check due) {
-        Scenes.Maker numbers = () -> Scenes.with(x -> x.put(7, 0), x -> x.step(6, 6, 13), x -> x.put(1, Integer.MIN_VALUE));
+        Scenes.Maker numbers = () -> Scenes.with(x -> x.put(7, 0), x -> x.step(6, 6, 13), x -> x.put(1,
+                Integer.MIN_VALUE));
         for (int r = 0; r < 8; r++) {
             for (char what : "btps".toCharArray()) {
                 int register = r;
@@ -347,7 +349,8 @@ public final class AskedPromisesTest {
                 Scenes.refuses(due, () -> Scenes.deep(deep), INDEX, "runs " + d + " at " + depth, x -> x.runs(told));
             }
         }
-        Scenes.refuses(due, () -> Scenes.with(x -> x.call(1), x -> x.leave()), INDEX, "runs 1 behind it", x -> x.runs(1));
+        Scenes.refuses(due, () -> Scenes.with(x -> x.call(1), x -> x.leave()), INDEX, "runs 1 behind it",
+                x -> x.runs(1));
     }
 
     // ---- Promise 27 ----
@@ -509,7 +512,8 @@ public final class AskedPromisesTest {
 
     @Says(in = "Promise 29", words = "Throws `IllegalArgumentException` if there is no such cause")
     static void trapsThrows(Check due) {
-        int[] signs = {'a', 'c', 'g', 'r', 'u', 'T', 'S', 'P', 'B', 'L', 'Q', 'M', 'D', 'F', '-', ' ', 0, 0x174, 0xffff};
+        int[] signs = {'a', 'c', 'g', 'r', 'u', 'T', 'S', 'P', 'B', 'L', 'Q', 'M', 'D', 'F', '-', ' ', 0, 0x174,
+                0xffff};
         Scenes.refusesAll(due, ARGUMENT, signs, "traps", (x, sign) -> x.traps((char) sign));
     }
 
@@ -539,8 +543,9 @@ public final class AskedPromisesTest {
         return power;
     }
 
-    @Says(in = "Promise 30", words = "Returns 0 at first, then for each cell 31 times itself plus the value as a number, plus "
-            + "7 if it holds a right.")
+    @Says(in = "Promise 30",
+            words = "Returns 0 at first, then for each cell 31 times itself plus the value as a number, plus 7 if it "
+                    + "holds a right.")
     static void checksumAnswers(Check due) {
         due.same("at first", new Sealhouse().checksum(), 0L);
         long sum = 0;
@@ -627,6 +632,12 @@ public final class AskedPromisesTest {
                         (40 + cells) / 4.0);
             }
         }
+        for (int i = 0; i < 4; i++) {
+            Sealhouse last = Scenes.deep(6);
+            last.call(1);
+            last.narrow(0, 6, 60 + i, 4 - i);
+            due.same("a right to what ends with the stack", last.meanReach(), 16.0);
+        }
         Sealhouse x = Scenes.wide();
         x.move(0, 5);
         for (int d = 1; d < 8; d++) {
@@ -680,8 +691,8 @@ public final class AskedPromisesTest {
         }
     }
 
-    @Says(in = "Promise 33", words = "each right in a register or a cell lies within the memory, with bounds that need no "
-            + "rounding;")
+    @Says(in = "Promise 33",
+            words = "each right in a register or a cell lies within the memory, with bounds that need no rounding;")
     static void soundBounds(Check due) {
         for (int cells = 1; cells <= 32; cells++) {
             int told = cells;

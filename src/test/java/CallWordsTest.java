@@ -49,8 +49,9 @@ public final class CallWordsTest {
         return Scenes.right(x, 0);
     }
 
-    @Says(in = "Calls", words = "When it returns, its register 0 is handed back, as the number 0 if it holds a right without "
-            + "the permission 16")
+    @Says(in = "Calls",
+            words = "When it returns, its register 0 is handed back, as the number 0 if it holds a right without the "
+                    + "permission 16")
     static void oneIsHandedBack(Check due) {
         due.same("what was handed on", handedBack(), "number 5");
         due.same("a number", handedBack(y -> y.put(0, Integer.MIN_VALUE)), "number -2147483648");
@@ -113,7 +114,8 @@ public final class CallWordsTest {
         }
     }
 
-    @Says(in = "Calls", words = "rights in cells and registers whose base is in this part become numbers, their addresses.")
+    @Says(in = "Calls",
+            words = "rights in cells and registers whose base is in this part become numbers, their addresses.")
     static void rightsToThePart(Check due) {
         for (int d = 1; d <= 7; d++) {
             int part = 32 + 4 * d;
@@ -141,6 +143,10 @@ public final class CallWordsTest {
                         + " may 111 seal 0");
             }
         }
+        Sealhouse swept = Scenes.with(y -> y.get(2, 1), y -> y.free(2), y -> y.sweep(), y -> y.get(2, 1),
+                y -> y.call(3),
+                y -> y.leave());
+        due.same("cells that rested once", Scenes.right(swept, 2), "64..65 at 64 may 95 seal 0");
         Sealhouse x = Scenes.deep(6);
         x.get(2, 1);
         x.store(7, 2);
@@ -150,8 +156,9 @@ public final class CallWordsTest {
         due.yes("in a cell too", x.hasRight(0));
     }
 
-    @Says(in = "Calls", words = "By a call through a sealed right with the seal s, the compartment s less 1 gets this right "
-            + "without its seal in its register 0")
+    @Says(in = "Calls",
+            words = "By a call through a sealed right with the seal s, the compartment s less 1 gets this right "
+                    + "without its seal in its register 0")
     static void calledThroughASeal(Check due) {
         for (int s = 1; s <= 4; s++) {
             int seal = s;
@@ -193,7 +200,8 @@ public final class CallWordsTest {
         due.same("traps behind " + name, Scenes.traps(x), before.replace(cause + "" + count, cause + "" + (count + 1)));
     }
 
-    @Says(in = "Traps", words = "An operation of the compartment that runs can trap, for the first one of these that applies")
+    @Says(in = "Traps",
+            words = "An operation of the compartment that runs can trap, for the first one of these that applies")
     static void firstCauseThatApplies(Check due) {
         // each right lacks all that the later causes look at
         Scenes.Maker sealed = () -> Scenes.with(x -> x.restrict(0, 7, 0), x -> x.step(0, 0, 8), x -> x.seal(0, 0));
@@ -365,9 +373,10 @@ public final class CallWordsTest {
         Scenes.Maker rests = () -> Scenes.with(x -> x.setQuota(0, 32), x -> x.setQuota(1, 32), x -> x.get(0, 32),
                 x -> x.free(0), x -> x.call(1));
         traps(due, 'm', "cells that rest are not free", rests, x -> x.get(0, 1));
-        Scenes.Maker swept = () -> Scenes.with(x -> x.setQuota(0, 32), x -> x.get(0, 32), x -> x.free(0), x -> x.sweep());
+        Scenes.Maker swept = () -> Scenes.with(x -> x.setQuota(0, 32), x -> x.get(0, 32), x -> x.free(0),
+                x -> x.sweep());
         due.fine("behind a sweep", swept.make().get(0, 32));
-        // 95 and 64 are free alone, so that no two are behind one another
+        // 64 and 67 are free alone, so that no two are behind one another
         Scenes.Maker apart = () -> Scenes.with(x -> x.setQuota(0, 32), x -> x.setQuota(1, 32), x -> x.get(2, 1),
                 x -> x.get(0, 1), x -> x.get(0, 20), x -> x.get(0, 8), x -> x.get(0, 1), x -> x.free(2), x -> x.sweep(),
                 x -> x.call(1));
@@ -439,22 +448,26 @@ public final class CallWordsTest {
             x -> x.load(2, 3), x -> x.narrow(2, 1, 64, 5), x -> x.step(2, 5, 1), x -> x.restrict(2, 5, 0),
             x -> x.seal(2, 5), x -> x.unseal(2, 7), x -> x.callSealed(7), x -> x.get(2, 13), x -> x.free(7),
             x -> x.free(5)};
-        String dull = Scenes.whole(() -> trappedAlike(filled, x -> x.load(2, 2)));
+        String dull = withoutTraps(() -> trappedOn(Scenes.with(filled), x -> x.load(2, 2)));
         for (int i = 0; i < trapping.length; i++) {
             Scenes.Use call = trapping[i];
-            String seen = Scenes.whole(() -> trappedAlike(filled, call));
-            due.same("trap " + i, seen.replaceAll("t\\d s.*", ""), dull.replaceAll("t\\d s.*", ""));
+            due.same("trap " + i, withoutTraps(() -> trappedOn(Scenes.with(filled), call)), dull);
         }
     }
 
-    private static Sealhouse trappedAlike(Scenes.Use[] filled, Scenes.Use call) {
-        Sealhouse x = Scenes.with(filled);
+    private static Sealhouse trappedOn(Sealhouse x, Scenes.Use call) {
         call.on(x);
         return x;
     }
 
-    @Says(in = "Traps", words = "the call in which it does is ended, and the one that called it gets the number -1 in its "
-            + "register 0, as if this was handed back")
+    /** All that can be asked but how many traps there were. */
+    private static String withoutTraps(Scenes.Maker maker) {
+        return Scenes.whole(maker).replace(Scenes.traps(maker.make()), "");
+    }
+
+    @Says(in = "Traps",
+            words = "the call in which it does is ended, and the one that called it gets the number -1 in its "
+                    + "register 0, as if this was handed back")
     static void trapEndsTheCall(Check due) {
         for (int d = 1; d <= 7; d++) {
             int part = 32 + 4 * d;
@@ -470,7 +483,8 @@ public final class CallWordsTest {
             due.same("trap", x.load(0, 4), 't');
             due.same("depth", x.depth(), d - 1);
             due.same("register 0", Scenes.right(x, 0), "number -1");
-            due.same("register 1", Scenes.right(x, 1), (part - 4) + ".." + part + " at " + (part - 3) + " may 111 seal 0");
+            due.same("register 1", Scenes.right(x, 1), (part - 4) + ".." + part + " at " + (part - 3)
+                    + " may 111 seal 0");
             due.same("register 4", Scenes.right(x, 4), "number 44");
             due.no("its part", x.hasRight(part));
             due.same("its part", x.cell(part), 0);
@@ -478,13 +492,27 @@ public final class CallWordsTest {
             due.same("a right to its part", x.cell(part - 3), part + 3);
             due.no("reaches", x.reaches(1, part));
         }
+        Scenes.Use[] trapping = {z -> z.load(0, 5), z -> z.store(7, 6), z -> z.narrow(0, 7, 0, 1), z -> z.unseal(0, 7),
+            z -> z.callSealed(7), z -> z.get(0, 17), z -> z.free(7)};
+        String left = withoutTraps(() -> {
+            Sealhouse z = Scenes.busy();
+            z.put(0, -1);
+            z.leave();
+            return z;
+        });
+        for (int i = 0; i < trapping.length; i++) {
+            Scenes.Use call = trapping[i];
+            due.yes("trap " + i, !call.on(Scenes.busy()).equals('-'));
+            due.same("as if -1 was handed back, trap " + i, withoutTraps(() -> trappedOn(Scenes.busy(), call)), left);
+        }
         Sealhouse y = Scenes.with(z -> z.call(1), z -> z.call(2), z -> z.load(0, 0), z -> z.load(0, 0));
         due.same("one call for each trap", y.depth(), 0);
         due.same("register 0", y.value(0), -1);
     }
 
-    @Says(in = "Traps", words = "at the depth 0, the call begins again instead, with 0 handed to it twice, and its part of "
-            + "the stack as it is.")
+    @Says(in = "Traps",
+            words = "at the depth 0, the call begins again instead, with 0 handed to it twice, and its part of the "
+                    + "stack as it is.")
     static void trapAtTheDepthZero(Check due) {
         Sealhouse x = new Sealhouse();
         x.put(5, 9);
@@ -509,6 +537,8 @@ public final class CallWordsTest {
     static void exceptionsChangeNothing(Check due) {
         Class<?> index = Scenes.INDEX;
         Class<?> argument = Scenes.ARGUMENT;
+        due.same("a busy machine", Scenes.busy().depth() + " " + Scenes.traps(Scenes.busy()),
+                "3 t1 s0 p0 b0 l0 q0 m0 d0 f0 ");
         // where the call, were its arguments right, would trap or end a call
         Scenes.refuses(due, index, "load(8, 0)", x -> x.load(8, 0));
         Scenes.refuses(due, index, "store(8, 0)", x -> x.store(8, 0));
@@ -544,8 +574,8 @@ public final class CallWordsTest {
 
     // ---- Clarifications ----
 
-    @Says(in = "Clarifications", words = "When the call at the depth 0 begins again by a trap, its registers are as at a "
-            + "beginning")
+    @Says(in = "Clarifications",
+            words = "When the call at the depth 0 begins again by a trap, its registers are as at a beginning")
     static void registersBeginAgain(Check due) {
         String first = Scenes.registers(new Sealhouse());
         Scenes.Use[] trapping = {x -> x.load(0, 0), x -> x.store(7, 6), x -> x.get(0, 17), x -> x.free(7),

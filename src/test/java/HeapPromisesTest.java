@@ -60,7 +60,8 @@ public final class HeapPromisesTest {
         int[] cells = {0, -1, 33, Integer.MIN_VALUE, Integer.MAX_VALUE};
         Scenes.refusesAll(due, ARGUMENT, cells, "get", (x, n) -> x.get(0, n));
         for (int n : cells) {
-            Scenes.refuses(due, () -> Scenes.with(x -> x.setQuota(0, 0)), ARGUMENT, "get of a quota of 0", x -> x.get(7, n));
+            Scenes.refuses(due, () -> Scenes.with(x -> x.setQuota(0, 0)), ARGUMENT, "get of a quota of 0",
+                    x -> x.get(7, n));
         }
     }
 
@@ -100,7 +101,8 @@ public final class HeapPromisesTest {
 
     @Says(in = "Promise 16", words = "Sweeps.")
     static void sweep(Check due) {
-        Sealhouse x = Scenes.with(y -> y.get(1, 2), y -> y.get(2, 2), y -> y.store(7, 1), y -> y.free(1), y -> y.sweep());
+        Sealhouse x = Scenes.with(y -> y.get(1, 2), y -> y.get(2, 2), y -> y.store(7, 1), y -> y.free(1),
+                y -> y.sweep());
         due.same("states", Scenes.states(x).substring(64), "ffgg" + "f".repeat(28));
         due.same("the register", Scenes.right(x, 1), "number 64");
         due.no("the cell", x.hasRight(0));

@@ -53,7 +53,8 @@ public final class HeapWordsTest {
         }
     }
 
-    @Says(in = "Heap", words = "it takes the lowest free ones, so many behind one another, whose bounds need no rounding")
+    @Says(in = "Heap",
+            words = "it takes the lowest free ones, so many behind one another, whose bounds need no rounding")
     static void lowestFreeOnes(Check due) {
         Sealhouse x = Scenes.with(y -> y.setQuota(0, 32), y -> y.get(0, 1), y -> y.get(1, 9), y -> y.get(2, 1),
                 y -> y.get(3, 17));
@@ -98,9 +99,13 @@ public final class HeapWordsTest {
         due.same("the last one", x.cell(67), 0);
         due.no("the last one", x.hasRight(67));
         due.same("checksum", x.checksum(), 0L);
+        Sealhouse ten = Scenes.with(y -> y.get(0, 10), y -> y.step(1, 0, 9), y -> y.store(1, 7), y -> y.free(0),
+                y -> y.sweep(), y -> y.get(0, 9));
+        due.same("the one that was made up", ten.cell(73) + " " + ten.hasRight(73), "0 false");
     }
 
-    @Says(in = "Heap", words = "and the register gets a right to them with all permissions but 32, its address the base.")
+    @Says(in = "Heap",
+            words = "and the register gets a right to them with all permissions but 32, its address the base.")
     static void rightToGotCells(Check due) {
         for (int r = 0; r < 8; r++) {
             Sealhouse x = Scenes.with(y -> y.get(0, 3), y -> y.call(2));
@@ -140,8 +145,9 @@ public final class HeapWordsTest {
         due.same("what it did not get does not count", Scenes.with(y -> y.get(0, 17)).counted(0), 0);
     }
 
-    @Says(in = "Heap", words = "To free takes a right whose bounds are just those of cells that were got and not freed yet, "
-            + "with the permission 2")
+    @Says(in = "Heap",
+            words = "To free takes a right whose bounds are just those of cells that were got and not freed yet, with "
+                    + "the permission 2")
     static void whatCanBeFreed(Check due) {
         Scenes.Maker two = () -> Scenes.with(x -> x.get(0, 4), x -> x.get(1, 4), x -> x.store(7, 0));
         due.fine("just those", two.make().free(0));
@@ -198,7 +204,8 @@ public final class HeapWordsTest {
             int told = base;
             // 66 and 67 rest
             Sealhouse x = Scenes.with(y -> y.get(0, 2), y -> y.get(1, 2), y -> y.get(2, 2),
-                    y -> y.narrow(3, (told - 64) / 2, told, 1), y -> y.step(3, 3, 9), y -> y.store(7, 3), y -> y.free(1),
+                    y -> y.narrow(3, (told - 64) / 2, told, 1), y -> y.step(3, 3, 9), y -> y.store(7, 3),
+                    y -> y.free(1),
                     y -> y.load(4, 7));
             String right = base + ".." + (base + 1) + " at " + (base + 9) + " may 95 seal 0";
             boolean rests = base == 66 || base == 67;
@@ -213,8 +220,9 @@ public final class HeapWordsTest {
         due.same("another one, in a cell that rests", Scenes.right(inside, 4), "0..8 at 0 may 95 seal 0");
     }
 
-    @Says(in = "Heap", words = "A sweep makes all rights with such bases in registers, in those of calls that wait, and in "
-            + "cells numbers, their addresses")
+    @Says(in = "Heap",
+            words = "A sweep makes all rights with such bases in registers, in those of calls that wait, and in cells "
+                    + "numbers, their addresses")
     static void sweepMakesNumbers(Check due) {
         // 64 and 65, 66 to 69 and 70 and 71 are got, and rights to each of them are kept in many places
         Sealhouse x = Scenes.with(y -> y.get(1, 2), y -> y.get(2, 4), y -> y.get(3, 2), y -> y.narrow(4, 1, 65, 1),
@@ -242,12 +250,26 @@ public final class HeapWordsTest {
         due.same("in the first one", Scenes.right(x, 4), "number 78");
         due.same("a sealed one", Scenes.right(x, 5), "number 78");
         due.same("swept twice", x.sweep(), 0);
-        due.fine("get", x.get(2, 4));
-        due.same("swept thrice", x.sweep(), 0);
-        due.same("a new right to the same cells", Scenes.right(x, 2), "66..70 at 66 may 95 seal 0");
-        Sealhouse ended = Scenes.with(y -> y.get(0, 1), y -> y.call(1), y -> y.move(4, 0), y -> y.free(0),
-                y -> y.put(0, 0), y -> y.leave());
-        due.same("in a call that has returned", ended.sweep(), 0);
+        sweepLeavesOthers(due);
+    }
+
+    /** What rested once, and what was once a part of the stack, does not matter to a sweep. */
+    private static void sweepLeavesOthers(Check due) {
+        Sealhouse again = Scenes.with(y -> y.get(0, 4), y -> y.free(0), y -> y.sweep(), y -> y.get(2, 4),
+                y -> y.store(7, 2));
+        due.same("a new right to the same cells", again.sweep(), 0);
+        due.same("a new right to the same cells", Scenes.right(again, 2), "64..68 at 64 may 95 seal 0");
+        Sealhouse part = Scenes.with(y -> y.call(1), y -> y.leave(), y -> y.call(1), y -> y.store(6, 6));
+        due.same("a right to a part of the stack", part.sweep(), 0);
+        due.same("a right to a part of the stack", Scenes.right(part, 6), Scenes.atFirst(6, 1, 1));
+        // the call that ends by a trap had such a right in each register
+        Sealhouse ended = Scenes.with(y -> y.get(0, 1), y -> y.call(1));
+        for (int r = 1; r < 8; r++) {
+            ended.move(r, 0);
+        }
+        due.fine("free", ended.free(0));
+        due.same("free again", ended.free(7), 'f');
+        due.same("in a call that has ended", ended.sweep(), 0);
     }
 
     @Says(in = "Heap", words = "and all cells that rest free ones")
@@ -270,7 +292,8 @@ public final class HeapWordsTest {
         x.sweep();
         due.same("behind", x.counted(0), 0);
         due.fine("get", x.get(0, 16));
-        Sealhouse both = Scenes.with(y -> y.get(0, 2), y -> y.get(2, 4), y -> y.call(1), y -> y.get(1, 3), y -> y.free(0),
+        Sealhouse both = Scenes.with(y -> y.get(0, 2), y -> y.get(2, 4), y -> y.call(1), y -> y.get(1, 3),
+                y -> y.free(0),
                 y -> y.free(1), y -> y.sweep());
         due.same("to the one that got them", both.counted(0), 4);
         due.same("to the one that got them", both.counted(1), 0);
@@ -307,8 +330,9 @@ public final class HeapWordsTest {
         due.same("the last part", Scenes.reached(last, 3), "24-31 60-63 ");
     }
 
-    @Says(in = "Reach", words = "and the cells within the bounds of each right without a seal, with the permission 1 or 2, "
-            + "that it has in a register of one of its calls")
+    @Says(in = "Reach",
+            words = "and the cells within the bounds of each right without a seal, with the permission 1 or 2, that "
+                    + "it has in a register of one of its calls")
     static void reachesByRegisters(Check due) {
         for (int p = 0; p < 128; p++) {
             int told = p;
@@ -342,14 +366,18 @@ public final class HeapWordsTest {
 
     @Says(in = "Reach", words = "or finds: in its globals")
     static void findsInGlobals(Check due) {
-        for (int i = 0; i < 8; i++) {
-            int steps = i;
-            Sealhouse x = Scenes.with(y -> y.call(2), y -> y.get(2, 3), y -> y.step(7, 7, steps), y -> y.store(7, 2),
+        for (int i = 0; i < 32; i++) {
+            int of = i / 8;
+            int steps = i % 8;
+            Sealhouse x = Scenes.with(y -> y.call(of), y -> y.get(2, 3), y -> y.step(7, 7, steps), y -> y.store(7, 2),
                     y -> y.leave());
-            due.same("in the cell " + (16 + i), Scenes.reached(x, 2), "16-23 64-66 ");
-            due.same("not in another's", Scenes.reached(x, 0), "0-7 32-35 ");
+            for (int c = 0; c < 4; c++) {
+                String found = Scenes.reached(new Sealhouse(), c) + (c == of ? "64-66 " : "");
+                due.same(c + " by the cell " + i, Scenes.reached(x, c), found);
+            }
         }
-        due.same("a sealed one", Scenes.reached(Scenes.with(y -> y.get(2, 3), y -> y.seal(2, 2), y -> y.store(7, 2)), 0),
+        due.same("a sealed one", Scenes.reached(Scenes.with(y -> y.get(2, 3), y -> y.seal(2, 2), y -> y.store(7, 2)),
+                0),
                 "0-7 32-35 ");
         due.same("without 1 and 2", Scenes.reached(Scenes.with(y -> y.get(2, 3), y -> y.restrict(2, 2, 124),
                 y -> y.store(7, 2)), 0), "0-7 32-35 ");
@@ -359,27 +387,45 @@ public final class HeapWordsTest {
 
     @Says(in = "Reach", words = "in a part of the stack of its calls")
     static void findsInParts(Check due) {
-        for (int i = 0; i < 4; i++) {
-            int steps = i;
-            Sealhouse x = Scenes.with(y -> y.call(2), y -> y.get(2, 3), y -> y.step(6, 6, steps), y -> y.store(6, 2),
-                    y -> y.put(2, 0), y -> y.put(6, 0));
-            due.same("in the cell " + (36 + i), Scenes.reached(x, 2), "16-23 36-39 64-66 ");
-            x.call(1);
-            due.same("of a call that waits", Scenes.reached(x, 2), "16-23 36-39 64-66 ");
-            due.same("not of another's call", Scenes.reached(x, 1), "8-15 40-43 ");
-            x.leave();
-            x.leave();
-            due.same("no more", Scenes.reached(x, 2), "16-23 ");
+        for (int d = 0; d < 8; d++) {
+            for (int i = 0; i < 4; i++) {
+                int depth = d;
+                int steps = i;
+                Scenes.Maker deep = () -> {
+                    Sealhouse x = new Sealhouse();
+                    for (int k = 1; k <= depth; k++) {
+                        x.call(k * 3 % 4);
+                    }
+                    return x;
+                };
+                Sealhouse x = deep.make();
+                run(x, y -> y.get(2, 3), y -> y.step(6, 6, steps), y -> y.store(6, 2), y -> y.put(2, 0),
+                        y -> y.put(6, 0), y -> y.put(7, 0));
+                for (int c = 0; c < 4; c++) {
+                    String found = Scenes.reached(deep.make(), c) + (c == d * 3 % 4 ? "64-66 " : "");
+                    due.same(c + " by the cell " + (32 + 4 * d + i), Scenes.reached(x, c), found.replace("-63 64-",
+                            "-"));
+                }
+            }
         }
+        Sealhouse x = Scenes.with(y -> y.call(2), y -> y.get(2, 3), y -> y.store(6, 2), y -> y.put(2, 0),
+                y -> y.call(1));
+        due.same("of a call that waits", Scenes.reached(x, 2), "16-23 36-39 64-66 ");
+        due.same("not of another's call", Scenes.reached(x, 1), "8-15 40-43 ");
+        x.leave();
+        x.leave();
+        due.same("not of one that has returned", Scenes.reached(x, 2), "16-23 ");
     }
 
-    @Says(in = "Reach", words = "or within the bounds of a right without a seal, with the permissions 1 and 4, that it has or "
-            + "finds")
+    @Says(in = "Reach",
+            words = "or within the bounds of a right without a seal, with the permissions 1 and 4, that it has or "
+                    + "finds")
     static void findsByRights(Check due) {
         for (int p = 0; p < 128; p++) {
             int told = p;
             // 64 and 65 have a right to 66, which is also the only one in the register 0 of the call
-            Sealhouse x = Scenes.with(y -> y.get(2, 2), y -> y.get(3, 1), y -> y.store(2, 3), y -> y.restrict(0, 2, told),
+            Sealhouse x = Scenes.with(y -> y.get(2, 2), y -> y.get(3, 1), y -> y.store(2, 3), y -> y.restrict(0, 2,
+                    told),
                     y -> y.call(1));
             String due1 = (p & 5) == 5 ? "8-15 36-39 64-66 " : p % 4 != 0 ? "8-15 36-39 64-65 " : "8-15 36-39 ";
             due.same("permissions " + p, Scenes.reached(x, 1), due1);
@@ -396,7 +442,8 @@ public final class HeapWordsTest {
         Sealhouse sealedIn = Scenes.with(y -> run(y, chain), y -> y.seal(4, 4), y -> y.store(3, 4), y -> y.move(0, 2),
                 y -> y.call(1));
         due.same("a sealed one in between", Scenes.reached(sealedIn, 1), "8-15 36-39 64-67 ");
-        Sealhouse blind = Scenes.with(y -> run(y, chain), y -> y.restrict(3, 3, 90), y -> y.store(2, 3), y -> y.move(0, 2),
+        Sealhouse blind = Scenes.with(y -> run(y, chain), y -> y.restrict(3, 3, 90), y -> y.store(2, 3), y -> y.move(0,
+                2),
                 y -> y.call(1));
         due.same("one in between without 1 and 4", Scenes.reached(blind, 1), "8-15 36-39 64-67 ");
         Sealhouse others = Scenes.with(y -> y.get(2, 1), y -> y.step(3, 7, 7), y -> y.store(3, 2), y -> y.move(0, 7),
@@ -407,12 +454,49 @@ public final class HeapWordsTest {
         due.same("in the last cell of it", Scenes.reached(ends, 1), "8-15 36-39 64-67 ");
         ends.put(1, 0);
         due.same("not behind its top", Scenes.reached(ends, 1), "8-15 36-39 64-65 ");
+        findsBehindManyRights(due);
+    }
+
+    /** Many rights to the same cells, and a way further on from the last of them. */
+    private static void findsBehindManyRights(Check due) {
+        Sealhouse heap = Scenes.with(y -> y.setQuota(0, 32), y -> y.get(0, 20), y -> y.get(1, 1), y -> y.get(3, 1),
+                y -> y.store(1, 3), y -> y.put(3, 0));
+        for (int i = 0; i < 20; i++) {
+            heap.step(2, 0, i);
+            heap.store(2, i == 19 ? 1 : 0);
+        }
+        heap.put(1, 0);
+        heap.put(2, 0);
+        due.same("20 cells with rights to all 20", Scenes.reached(heap, 0), "0-7 32-35 64-85 ");
+        Sealhouse overlapping = Scenes.wide();
+        for (int i = 0; i < 31; i++) {
+            overlapping.narrow(1, 5, 64 + i, i < 24 ? 8 : 32 - i);
+            overlapping.step(2, 5, i);
+            overlapping.store(2, 1);
+        }
+        overlapping.put(2, 0);
+        overlapping.step(1, 5, 31);
+        overlapping.store(1, 7);
+        overlapping.narrow(0, 5, 64, 1);
+        overlapping.call(1);
+        due.same("32 cells with rights to the next 8", Scenes.reached(overlapping, 1), "0-15 36-39 64-95 ");
+        Sealhouse stack = Scenes.deep(7);
+        stack.get(2, 1);
+        stack.get(3, 1);
+        stack.store(2, 3);
+        stack.step(1, 6, 3);
+        stack.store(1, 2);
+        for (int r = 1; r < 4; r++) {
+            stack.put(r, 0);
+        }
+        due.same("all parts of the stack, and the last cell", Scenes.reached(stack, 0), "0-7 32-65 ");
     }
 
     @Says(in = "Reach", words = "but a right in a cell whose base is a cell that rests is not found.")
     static void restingIsNotFound(Check due) {
         // 64, then 65 and 66, then 67 are got; 65 has a right to 67, and all three are in the globals of 0 and 1
-        Scenes.Use[] kept = {y -> y.get(2, 1), y -> y.get(3, 2), y -> y.get(4, 1), y -> y.store(3, 4), y -> y.move(0, 3),
+        Scenes.Use[] kept = {y -> y.get(2, 1), y -> y.get(3, 2), y -> y.get(4, 1), y -> y.store(3, 4), y -> y.move(0,
+                3),
             y -> y.call(1), y -> y.store(7, 0), y -> y.leave(), y -> y.store(7, 3), y -> y.narrow(5, 3, 66, 1),
             y -> y.store(6, 5), y -> y.put(0, 0), y -> y.put(5, 0)};
         Sealhouse x = Scenes.with(kept);
@@ -433,8 +517,8 @@ public final class HeapWordsTest {
         due.same("another one, in a cell that rests", Scenes.reached(inside, 0), "0-7 32-35 64-65 ");
     }
 
-    @Says(in = "Reach", words = "It has ever reached a cell if it does so at first or behind a call of this machine's "
-            + "methods.")
+    @Says(in = "Reach",
+            words = "It has ever reached a cell if it does so at first or behind a call of this machine's methods.")
     static void everReached(Check due) {
         Sealhouse first = new Sealhouse();
         for (int c = 0; c < 4; c++) {

@@ -16,7 +16,8 @@ public final class OperationPromisesTest {
         Sentences.run(OperationPromisesTest.class);
     }
 
-    /** A machine with a sealed right in the register 0, one without permissions in 1, and one with its address out in 3. */
+    /** A machine with a sealed right in the register 0, one without permissions in 1,
+            and one with its address out in 3. */
     private static Sealhouse poor() {
         return Scenes.with(x -> x.seal(0, 7), x -> x.restrict(1, 7, 0), x -> x.step(3, 7, 8));
     }
@@ -27,7 +28,8 @@ public final class OperationPromisesTest {
 
     // ---- Promise 1 ----
 
-    @Says(in = "Promise 1", words = "Creates a machine whose compartment 0 runs at the depth 0, with 0 handed to it twice.")
+    @Says(in = "Promise 1",
+            words = "Creates a machine whose compartment 0 runs at the depth 0, with 0 handed to it twice.")
     static void newObject(Check due) {
         Sealhouse x = new Sealhouse();
         due.same("depth", x.depth(), 0);
@@ -133,8 +135,9 @@ public final class OperationPromisesTest {
 
     // ---- Promise 4 ----
 
-    @Says(in = "Promise 4", words = "Makes a right with narrower bounds, the address its base, of the same permissions; it "
-            + "traps for 'b' if they are not within those of the old one behind rounding.")
+    @Says(in = "Promise 4",
+            words = "Makes a right with narrower bounds, the address its base, of the same permissions; it traps for "
+                    + "'b' if they are not within those of the old one behind rounding.")
     static void narrow(Check due) {
         Sealhouse x = Scenes.with(y -> y.step(1, 7, 16), y -> y.narrow(0, 1, 3, 2));
         due.same("the address its base", Scenes.right(x, 0), "3..5 at 3 may 95 seal 0");
@@ -150,7 +153,8 @@ public final class OperationPromisesTest {
                         base >= 3 && base + length <= 7 ? '-' : 'b');
             }
         }
-        Scenes.Maker sixteen = () -> Scenes.with(y -> y.setQuota(0, 32), y -> y.get(5, 20), y -> y.narrow(5, 5, 66, 16));
+        Scenes.Maker sixteen = () -> Scenes.with(y -> y.setQuota(0, 32), y -> y.get(5, 20), y -> y.narrow(5, 5, 66,
+                16));
         due.fine("rounded to the same", sixteen.make().narrow(0, 5, 67, 15));
         due.same("rounded to a lower base", sixteen.make().narrow(0, 5, 67, 16), 'b');
         due.fine("not rounded at the top", sixteen.make().narrow(0, 5, 74, 8));
@@ -345,8 +349,9 @@ public final class OperationPromisesTest {
 
     // ---- Promise 7 ----
 
-    @Says(in = "Promise 7", words = "Loads from the cell at the address of a right; a right is loaded as a number through one "
-            + "without the permission 4, and without the permissions 2 and 64 through one without 64.")
+    @Says(in = "Promise 7",
+            words = "Loads from the cell at the address of a right; a right is loaded as a number through one without "
+                    + "the permission 4, and without the permissions 2 and 64 through one without 64.")
     static void load(Check due) {
         for (int i = 0; i < 8; i++) {
             int steps = i;
@@ -365,6 +370,15 @@ public final class OperationPromisesTest {
                 due.yes("the cell has it still", x.hasRight(32));
             }
         }
+        for (int via = 1; via < 128; via += 2) {
+            for (int n = -9; n <= 9; n++) {
+                int through = via & 111;
+                int kept = n;
+                Sealhouse x = Scenes.with(y -> y.put(2, kept), y -> y.store(6, 2), y -> y.restrict(3, 6, through),
+                        y -> y.load(4, 3));
+                due.same(n + " through " + through, Scenes.right(x, 4), "number " + n);
+            }
+        }
         Sealhouse sealed = Scenes.with(y -> y.seal(2, 7), y -> y.store(7, 2), y -> y.load(3, 7),
                 y -> y.restrict(4, 7, 63), y -> y.load(5, 4), y -> y.restrict(4, 7, 123), y -> y.load(4, 4));
         due.same("a sealed right", Scenes.right(sealed, 3), "0..8 at 0 may 95 seal 1");
@@ -374,7 +388,8 @@ public final class OperationPromisesTest {
 
     @Says(in = "Promise 7", words = "`to`: the register that gets it, 0 to 7")
     static void loadTo(Check due) {
-        Scenes.getsIt(due, () -> Scenes.with(x -> x.put(1, 6), x -> x.store(7, 1)), "number 6", (x, to) -> x.load(to, 7));
+        Scenes.getsIt(due, () -> Scenes.with(x -> x.put(1, 6), x -> x.store(7, 1)), "number 6", (x, to) -> x.load(to,
+                7));
         Scenes.getsIt(due, () -> Scenes.with(x -> x.store(7, 7)), Scenes.atFirst(7, 0, 0), (x, to) -> x.load(to, 7));
     }
 
@@ -401,8 +416,9 @@ public final class OperationPromisesTest {
 
     // ---- Promise 8 ----
 
-    @Says(in = "Promise 8", words = "Stores into the cell at the address of a right; the permission 2 is needed, and 8 to "
-            + "store a right.")
+    @Says(in = "Promise 8",
+            words = "Stores into the cell at the address of a right; the permission 2 is needed, and 8 to store a "
+                    + "right.")
     static void store(Check due) {
         for (int i = 0; i < 8; i++) {
             Sealhouse x = new Sealhouse();
@@ -512,8 +528,8 @@ public final class OperationPromisesTest {
 
     // ---- Promise 10 ----
 
-    @Says(in = "Promise 10", words = "Takes the seal from a right; it traps for 's' if this is not that of the compartment "
-            + "that runs.")
+    @Says(in = "Promise 10",
+            words = "Takes the seal from a right; it traps for 's' if this is not that of the compartment that runs.")
     static void unseal(Check due) {
         for (int sealing = 0; sealing < 4; sealing++) {
             for (int opening = 0; opening < 4; opening++) {
@@ -604,7 +620,8 @@ public final class OperationPromisesTest {
         due.fine("callSealed", x.callSealed(4));
         due.same("depth", x.depth(), 1);
         due.same("runs", x.runs(1), 3);
-        due.same("registers", Scenes.registers(x), "24..32 at 28 may 95 seal 0; number 6; number 0; number 0; number 0; "
+        due.same("registers", Scenes.registers(x),
+                "24..32 at 28 may 95 seal 0; number 6; number 0; number 0; number 0; "
                 + "number 0; " + Scenes.atFirst(6, 3, 1) + "; " + Scenes.atFirst(7, 3, 1) + "; ");
         due.same("what is not sealed", new Sealhouse().callSealed(7), 's');
         due.same("what is no more", Scenes.with(SEALED, y -> y.unseal(2, 2)).callSealed(2), 's');
@@ -668,7 +685,8 @@ public final class OperationPromisesTest {
     @Says(in = "Promise 13", words = "Throws `IllegalStateException` if the depth is 0")
     static void leaveThrows(Check due) {
         Class<?> state = IllegalStateException.class;
-        Scenes.Maker filled = () -> Scenes.with(x -> x.move(0, 6), x -> x.store(6, 6), x -> x.put(3, 3), x -> x.get(4, 2));
+        Scenes.Maker filled = () -> Scenes.with(x -> x.move(0, 6), x -> x.store(6, 6), x -> x.put(3, 3), x -> x.get(4,
+                2));
         Scenes.refuses(due, NEW, state, "leave", x -> x.leave());
         Scenes.refuses(due, filled, state, "leave", x -> x.leave());
         Scenes.refuses(due, () -> Scenes.with(x -> x.call(1), x -> x.leave()), state, "leave", x -> x.leave());

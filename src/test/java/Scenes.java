@@ -49,13 +49,13 @@ final class Scenes {
         return x;
     }
 
-    /** A machine with calls that wait, cells that rest, sealed rights and traps behind it. */
+    /** A machine at the depth 3, with cells that rest, sealed rights, rights to the stack, and a trap behind it. */
     static Sealhouse busy() {
-        return with(x -> x.load(0, 0), x -> x.setQuota(2, 9), x -> x.get(2, 3), x -> x.get(0, 2), x -> x.store(7, 0),
+        return with(x -> x.load(0, 0), x -> x.setQuota(2, 12), x -> x.get(2, 3), x -> x.get(0, 2), x -> x.store(7, 0),
                 x -> x.move(1, 6), x -> x.call(3), x -> x.store(1, 6), x -> x.seal(2, 7), x -> x.store(7, 2),
                 x -> x.get(4, 5), x -> x.move(1, 4), x -> x.call(2), x -> x.put(3, -7), x -> x.store(1, 3),
-                x -> x.free(0), x -> x.get(2, 9), x -> x.move(1, 0), x -> x.call(2), x -> x.get(2, 9),
-                x -> x.step(3, 6, 3), x -> x.narrow(4, 6, 41, 2), x -> x.store(3, 4), x -> x.seal(5, 7));
+                x -> x.free(0), x -> x.get(2, 9), x -> x.move(1, 0), x -> x.call(2), x -> x.get(2, 2),
+                x -> x.step(3, 6, 3), x -> x.narrow(4, 6, 45, 2), x -> x.store(3, 4), x -> x.seal(5, 7));
     }
 
     /** Base, top, address, permissions and seal of what a register holds, or its number. */

@@ -31,8 +31,8 @@ public final class SoundTest {
         return base | 1L << 32 | (long) base << 33 | (long) top << 40 | 127L << 47;
     }
 
-    @Says(in = "Promise 33", words = "each right in a register or a cell lies within the memory, with bounds that need no "
-            + "rounding;")
+    @Says(in = "Promise 33",
+            words = "each right in a register or a cell lies within the memory, with bounds that need no rounding;")
     static void bounds(Check due) throws ReflectiveOperationException {
         int[][] cases = {
             {8, 16, 1}, {8, 17, 0}, {8, 18, 1}, {9, 18, 0}, {9, 19, 0}, {8, 8, 0}, {9, 8, 0}, {0, 96, 1}, {16, 96, 1},
@@ -40,18 +40,18 @@ public final class SoundTest {
             {0, 80, 1}, {8, 72, 1}, {8, 88, 0}, {4, 36, 1}, {4, 40, 0}, {2, 18, 1}, {2, 20, 0},
         };
         for (int[] c : cases) {
+            for (int cell = 0; cell < 96; cell += 5) {
+                Sealhouse x = new Sealhouse();
+                cells(x)[cell] = right(c[0], c[1]);
+                due.same("a cell with " + c[0] + ".." + c[1], x.isSound(), c[2] == 1);
+            }
+            for (int r = 0; r < 16; r++) {
+                Sealhouse x = new Sealhouse();
+                x.call(1);
+                registers(x)[r] = right(c[0], c[1]);
+                due.same("register " + r + " of two calls with " + c[0] + ".." + c[1], x.isSound(), c[2] == 1);
+            }
             Sealhouse x = new Sealhouse();
-            cells(x)[95] = right(c[0], c[1]);
-            due.same("a cell with " + c[0] + ".." + c[1], x.isSound(), c[2] == 1);
-            x = new Sealhouse();
-            x.call(1);
-            registers(x)[5] = right(c[0], c[1]);
-            due.same("a waiting register with " + c[0] + ".." + c[1], x.isSound(), c[2] == 1);
-            x = new Sealhouse();
-            x.call(1);
-            registers(x)[15] = right(c[0], c[1]);
-            due.same("a register with " + c[0] + ".." + c[1], x.isSound(), c[2] == 1);
-            x = new Sealhouse();
             registers(x)[8] = right(c[0], c[1]);
             due.yes("a register of no call with " + c[0] + ".." + c[1], x.isSound());
         }

@@ -39,7 +39,8 @@ public final class ValueWordsTest {
         due.same("both", Scenes.with(small).narrow(0, 0, 0, 8), 'b');
         for (int p = 0; p < 128; p++) {
             int told = p;
-            Sealhouse x = Scenes.with(y -> y.restrict(0, 7, told), y -> y.restrict(1, 0, 127), y -> y.narrow(2, 1, 0, 8),
+            Sealhouse x = Scenes.with(y -> y.restrict(0, 7, told), y -> y.restrict(1, 0, 127), y -> y.narrow(2, 1, 0,
+                    8),
                     y -> y.step(2, 2, 1), y -> y.seal(2, 2), y -> y.unseal(2, 2), y -> y.move(3, 2));
             due.same("permissions of " + p, Scenes.right(x, 3), "0..8 at 1 may " + (p & 95) + " seal 0");
         }
@@ -79,8 +80,9 @@ public final class ValueWordsTest {
         }
     }
 
-    @Says(in = "Values", words = "A right has a base and a top, an address, a sum of permissions, and a seal from 0, for "
-            + "none, to 4.")
+    @Says(in = "Values",
+            words = "A right has a base and a top, an address, a sum of permissions, and a seal from 0, for none, to "
+                    + "4.")
     static void partsOfARight(Check due) {
         due.same("seal 0", Scenes.right(Scenes.with(y -> y.step(7, 7, 5)), 7), "0..8 at 5 may 95 seal 0");
         for (int c = 0; c < 4; c++) {
@@ -182,20 +184,24 @@ public final class ValueWordsTest {
 
     @Says(in = "Bounds", words = "The length of a right is its top less its base.")
     static void lengthOfARight(Check due) {
-        narrows(due, new int[][] {{64, 1, 64, 65}, {95, 1, 95, 96}, {71, 8, 71, 79}, {88, 8, 88, 96}, {70, 10, 70, 80}});
+        narrows(due, new int[][] {{64, 1, 64, 65}, {95, 1, 95, 96}, {71, 8, 71, 79}, {88, 8, 88, 96}, {70, 10, 70,
+                80}});
     }
 
-    @Says(in = "Bounds", words = "Bounds are rounded: with the least one of 1, 2, 4, 8 and 16 that does so, the base down "
-            + "and the top up to numbers that can be divided by it, the length being at most 8 times it then.")
+    @Says(in = "Bounds",
+            words = "Bounds are rounded: with the least one of 1, 2, 4, 8 and 16 that does so, the base down and the "
+                    + "top up to numbers that can be divided by it, the length being at most 8 times it then.")
     static void rounding(Check due) {
         // 8 cells need no rounding, wherever they are
         narrows(due, new int[][] {{64, 8, 64, 72}, {65, 8, 65, 73}, {87, 8, 87, 95}, {65, 7, 65, 72}});
         // more are rounded by 2, as long as 16 are enough
         narrows(due, new int[][] {{64, 9, 64, 74}, {65, 9, 64, 74}, {65, 10, 64, 76}, {87, 9, 86, 96}, {64, 16, 64, 80},
-            {66, 15, 66, 82}, {65, 15, 64, 80}, {66, 16, 66, 82}, {65, 14, 64, 80}, {67, 14, 66, 82}, {80, 16, 80, 96}});
+            {66, 15, 66, 82}, {65, 15, 64, 80}, {66, 16, 66, 82}, {65, 14, 64, 80}, {67, 14, 66, 82}, {80, 16, 80,
+            96}});
         // and by 4, when rounding by 2 makes 18
         narrows(due, new int[][] {{65, 16, 64, 84}, {67, 15, 66, 82}, {67, 16, 64, 84}, {64, 17, 64, 84},
-            {66, 17, 64, 84}, {79, 17, 76, 96}, {65, 30, 64, 96}, {64, 32, 64, 96}, {67, 29, 64, 96}, {68, 28, 68, 96}});
+            {66, 17, 64, 84}, {79, 17, 76, 96}, {65, 30, 64, 96}, {64, 32, 64, 96}, {67, 29, 64, 96}, {68, 28, 68,
+            96}});
         for (int base = 64; base < 96; base++) {
             for (int length = 1; base + length <= 96; length++) {
                 int[] bounds = Model.rounded(base, base + length);
@@ -277,8 +283,9 @@ public final class ValueWordsTest {
         }
     }
 
-    @Says(in = "Memory", words = "the call at the depth d, from 0, has the cells from 32 plus 4 d on, 4 of them, as its "
-            + "part of the stack")
+    @Says(in = "Memory",
+            words = "the call at the depth d, from 0, has the cells from 32 plus 4 d on, 4 of them, as its part of "
+                    + "the stack")
     static void partsOfTheStack(Check due) {
         for (int d = 0; d < 8; d++) {
             int depth = d;
@@ -304,7 +311,8 @@ public final class ValueWordsTest {
         due.same("stateOf 64", x.stateOf(64), 'f');
         due.same("stateOf 95", x.stateOf(95), 'f');
         due.same("all of it", Scenes.right(Scenes.wide(), 5), "64..96 at 64 may 95 seal 0");
-        due.same("no more", Scenes.with(y -> y.setQuota(0, 32), y -> y.get(5, 32), y -> y.setQuota(1, 32), y -> y.call(1))
+        due.same("no more", Scenes.with(y -> y.setQuota(0, 32), y -> y.get(5, 32), y -> y.setQuota(1, 32),
+                y -> y.call(1))
                 .get(0, 1), 'm');
     }
 
@@ -353,8 +361,9 @@ public final class ValueWordsTest {
         }
     }
 
-    @Says(in = "Compartments", words = "When a call begins, the register 7 has a right to the globals of its compartment, "
-            + "with all permissions but 32")
+    @Says(in = "Compartments",
+            words = "When a call begins, the register 7 has a right to the globals of its compartment, with all "
+                    + "permissions but 32")
     static void rightToGlobals(Check due) {
         due.same("in words", Scenes.atFirst(7, 3, 5), "24..32 at 24 may 95 seal 0");
         atBeginnings(due, 7);
